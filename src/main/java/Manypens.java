@@ -250,18 +250,19 @@ public final class Manypens {
             throw new NoSuchElementException("no such comment");
         }
         Edit edit = book.editAt(view.hung.at(index));
-        switch (what) {
-            case 'n':
-                return edit.label();
-            case 'f':
-                return view.firsts.at(index);
-            case 'l':
-                return view.ends.at(index) - 1;
-            case 'c':
-                return edit.code;
-            default:
-                throw new IllegalArgumentException("no such letter");
+        if (what == 'n') {
+            return edit.label();
         }
+        if (what == 'f') {
+            return view.firsts.at(index);
+        }
+        if (what == 'l') {
+            return view.ends.at(index) - 1;
+        }
+        if (what == 'c') {
+            return edit.code;
+        }
+        throw new IllegalArgumentException("no such letter");
     }
 
     public int setCursor(int hand, int place) throws IndexOutOfBoundsException, NoSuchElementException {

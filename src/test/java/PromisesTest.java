@@ -278,6 +278,16 @@ public final class PromisesTest {
         fillEdits(y, 0, 0);
         refused(y, STATE, () -> y.take(0, 0, 1));
         refused(y, NONE, () -> y.take(0, 0, 4));
+        // the very first edit of hand 0, and the last one of hand 4
+        Manypens z = new Manypens();
+        put(z, 4, 0, "abc");
+        z.meet(0, 4);
+        due(2, z.take(0, 0, 1));
+        fillEdits(z, 4, 1);
+        due(2, z.take(4, 1, 1));
+        due("ac", text(z, 4));
+        meetAll(z);
+        due("c", text(z, 2));
     }
 
     static void replacing() {
@@ -627,7 +637,9 @@ public final class PromisesTest {
         Manypens w = start("a");
         fillEdits(w, 0, 1);
         w.open(0);
+        due(38, w.comments(0));
         due(1, w.undo(0));
+        due(37, w.comments(0));
         w.open(0);
         refused(w, STATE, () -> w.undo(0));
         promise = 14;
@@ -840,6 +852,21 @@ public final class PromisesTest {
         due("eabdc", text(x, 1));
         // what was heard in meeting is known
         due('k', x.deliver(3, 0));
+        // hand 0's very first edit can lean on others, and wait
+        Manypens z = new Manypens();
+        put(z, 1, 0, "ab");
+        z.deliver(0, 0);
+        put(z, 0, 1, "-");
+        due('w', z.deliver(2, 1));
+        due(1, z.waiting(2));
+        z.repeat(2, 0);
+        due('h', z.deliver(2, 0));
+        due(0, z.waiting(2));
+        due("a-b", text(z, 2));
+        due('k', z.deliver(2, 0));
+        z.deliver(3, 1);
+        due(2, z.meet(3, 2));
+        due(0, z.waiting(3));
         promise = 31;
         refused(x, BOUNDS, () -> x.waiting(5));
         refused(x, BOUNDS, () -> x.waiting(-1));
