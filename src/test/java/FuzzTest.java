@@ -784,7 +784,7 @@ public final class FuzzTest {
         if (k == 0) return -1;
         if (k == 1) return most + 1;
         if (k == 2) return r.nextBoolean() ? Integer.MAX_VALUE : Integer.MIN_VALUE;
-        return most <= 0 ? 0 : r.nextInt(most + 1);
+        return most <= 0 ? 0 : r.nextInt(Math.min(most, 1000) + 1);
     }
 
     static int[] draw(Random r, String name, Pens m, int hands) {
