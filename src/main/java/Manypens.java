@@ -7,6 +7,11 @@ import java.util.NoSuchElementException;
  * All letters stand in one row that the hands share: what a hand sees is the part of that row
  * which the edits that it has heard leave in sight. A hand's edits are heard in the order of
  * their numbers, so what a hand has heard is told by one count for each hand.
+ *
+ * Hands that move the same letters at once multiply them, so there can be billions. They are
+ * therefore never held one by one, but in pieces: letters of one edit, one behind the other, that
+ * no other edit has told apart. Each edit tells letters apart at three places at most, so pieces
+ * are few.
  */
 public final class Manypens {
     private static final int HANDS = 5;
@@ -15,11 +20,13 @@ public final class Manypens {
     private static final int MOST_TYPED = 12;
     private static final int LONGEST = 60;
     private static final int MOST_REPEATED = 200;
-    /** The document sets no bound here; hands that move the same letters at once could fill any room. */
-    private static final int MOST_LETTERS = 1 << 17;
-    private static final int MOST_TAKEN = 1 << 18;
-    /** As a letter: the begin of the row, which stands ahead of all, and the end of a chain. */
-    private static final int NO_LETTER = 0;
+    /** Bits of a set of edits, in rows of longs. */
+    private static final int BITS = 64;
+    private static final int WORDS = (ALL + BITS - 1) / BITS;
+    /** As a letter: the begin of the row, which stands ahead of all, or the end behind all. */
+    private static final long NO_LETTER = 0;
+    /** The piece of the begin; as the next one of a chain, its end. */
+    private static final int NO_PIECE = 0;
     private static final int B = 1;
     private static final int I = 2;
 
@@ -28,6 +35,7 @@ public final class Manypens {
     private final Row row;
     private final Hand[] hands;
     private final View past;
+    private final int[] heardThen;
     private final View anew;
     private final InTime forOne;
     private final InTime forOther;
@@ -41,6 +49,7 @@ public final class Manypens {
             hands[hand] = new Hand(new View(book, row));
         }
         past = new View(book, row);
+        heardThen = new int[HANDS];
         anew = new View(book, new Row(book));
         forOne = new InTime(book);
         forOther = new InTime(book);
@@ -69,49 +78,48 @@ public final class Manypens {
 
     public int put(int hand, int place) throws IndexOutOfBoundsException, NoSuchElementException, UnsupportedOperationException, IllegalStateException {
         needHand(hand);
-        int old = viewOf(hand).size();
-        needPlace(place, old);
+        View view = viewOf(hand);
+        needPlace(place, view.size());
         needTyped();
-        needShort((long) old + typed.size());
-        needEdit(hand, typed.size(), 0);
-        putTyped(hand, place, 0);
-        return viewOf(hand).size();
+        needShort(view.size() + typed.size());
+        needEdit(hand);
+        putTyped(newEdit(hand), view.letterAhead(place));
+        return told(viewOf(hand).size());
     }
 
     public int take(int hand, int place, int many) throws IndexOutOfBoundsException, NoSuchElementException, IllegalStateException {
         needHand(hand);
-        View view = viewOf(hand);
-        needLetters(view, place, many);
-        needEdit(hand, 0, many);
+        needLetters(viewOf(hand), place, many);
+        needEdit(hand);
         Edit edit = newEdit(hand);
-        takeLetters(edit, view, place, many);
+        takeLetters(edit, cutOut(hand, place, many), place, many);
         makeChange(edit);
-        return viewOf(hand).size();
+        return told(viewOf(hand).size());
     }
 
     public int replace(int hand, int place, int many) throws IndexOutOfBoundsException, NoSuchElementException, UnsupportedOperationException, IllegalStateException {
         needHand(hand);
-        View view = viewOf(hand);
-        needLetters(view, place, many);
+        needLetters(viewOf(hand), place, many);
         needTyped();
-        needShort((long) view.size() - many + typed.size());
-        needEdit(hand, typed.size(), many);
-        putTyped(hand, place, many);
-        return viewOf(hand).size();
+        needShort(viewOf(hand).size() - many + typed.size());
+        needEdit(hand);
+        Edit edit = newEdit(hand);
+        View view = cutOut(hand, place, many);
+        takeLetters(edit, view, place, many);
+        putTyped(edit, view.letterAhead(place));
+        return told(viewOf(hand).size());
     }
 
     public int move(int hand, int place, int many, int to) throws IndexOutOfBoundsException, NoSuchElementException, IllegalStateException {
         needHand(hand);
-        View view = viewOf(hand);
-        needLetters(view, place, many);
-        needPlace(to, view.size() - many);
-        needEdit(hand, many, many);
+        needLetters(viewOf(hand), place, many);
+        needPlace(to, viewOf(hand).size() - many);
+        needEdit(hand);
         Edit edit = newEdit(hand);
+        View view = cutOut(hand, place, many);
         takeLetters(edit, view, place, many);
-        edit.origin = view.letterAhead(to <= place ? to : to + many);
-        for (int i = 0; i < many; i++) {
-            book.addLetter(edit, book.signOf(view.letterAt(place + i)));
-        }
+        copyLetters(edit, view, place, many);
+        edit.origin = view.letterAhead(to <= place ? to : (long) to + many);
         makeChange(edit);
         return to - place;
     }
@@ -119,30 +127,28 @@ public final class Manypens {
     public int mark(int hand, int place, int many, char kind, boolean isOn, boolean isGrowing) throws IndexOutOfBoundsException, IllegalArgumentException, NoSuchElementException, IllegalStateException {
         needHand(hand);
         needKind(kind);
-        View view = viewOf(hand);
-        needLetters(view, place, many);
-        needEdit(hand, 0, 0);
+        needLetters(viewOf(hand), place, many);
+        needEdit(hand);
         Edit edit = newEdit(hand);
         edit.mark = bitOf(kind);
         edit.isOn = isOn;
-        edit.from = view.letterAt(place);
-        edit.to = view.letterAt(isGrowing ? place + many : place + many - 1);
-        edit.isToWithin = !isGrowing;
+        spanLetters(edit, cutOut(hand, place, many), place, many);
+        if (isGrowing) {
+            edit.to = viewOf(hand).letterAt((long) place + many);
+            edit.isToWithin = false;
+        }
         makeChange(edit);
         return edit.number;
     }
 
     public int comment(int hand, int place, int many, int code) throws IndexOutOfBoundsException, NoSuchElementException, IllegalStateException {
         needHand(hand);
-        View view = viewOf(hand);
-        needLetters(view, place, many);
-        needEdit(hand, 0, 0);
+        needLetters(viewOf(hand), place, many);
+        needEdit(hand);
         Edit edit = newEdit(hand);
         edit.isComment = true;
         edit.code = code;
-        edit.from = view.letterAt(place);
-        edit.to = view.letterAt(place + many - 1);
-        edit.isToWithin = true;
+        spanLetters(edit, cutOut(hand, place, many), place, many);
         makeChange(edit);
         return edit.label();
     }
@@ -151,11 +157,12 @@ public final class Manypens {
         needHand(hand);
         needTyped();
         View view = viewOf(hand);
-        needShort((long) view.size() + typed.size());
-        needEdit(hand, typed.size(), 0);
-        Edit edit = putTyped(hand, view.placeBehind(hands[hand].cursor), 0);
+        needShort(view.size() + typed.size());
+        needEdit(hand);
+        Edit edit = newEdit(hand);
+        putTyped(edit, view.letterAhead(view.placeBehind(hands[hand].cursor)));
         hands[hand].cursor = edit.firstLetter + edit.letters - 1;
-        return viewOf(hand).placeBehind(hands[hand].cursor);
+        return told(viewOf(hand).placeBehind(hands[hand].cursor));
     }
 
     public int open(int hand) throws IndexOutOfBoundsException, IllegalStateException {
@@ -181,7 +188,7 @@ public final class Manypens {
         if (maker.undoable.size() == 0) {
             throw new NoSuchElementException("nothing to undo");
         }
-        needEdit(hand, 0, 0);
+        needEdit(hand);
         return turn(hand, maker.undoable, maker.redoable, Edit.UNDOING);
     }
 
@@ -191,7 +198,7 @@ public final class Manypens {
         if (maker.redoable.size() == 0) {
             throw new NoSuchElementException("nothing to do again");
         }
-        needEdit(hand, 0, 0);
+        needEdit(hand);
         return turn(hand, maker.redoable, maker.undoable, Edit.REDOING);
     }
 
@@ -204,34 +211,34 @@ public final class Manypens {
 
     public int length(int hand) throws IndexOutOfBoundsException {
         needHand(hand);
-        return viewOf(hand).size();
+        return told(viewOf(hand).size());
     }
 
     public char signAt(int hand, int place) throws IndexOutOfBoundsException, NoSuchElementException {
         needHand(hand);
         needLetter(viewOf(hand), place);
-        return (char) book.signOf(viewOf(hand).letterAt(place));
+        return (char) book.signs.signOf(viewOf(hand).letterAt(place));
     }
 
     public int birth(int hand, int place) throws IndexOutOfBoundsException, NoSuchElementException {
         needHand(hand);
         needLetter(viewOf(hand), place);
-        return book.makerOf(viewOf(hand).letterAt(place)).label();
+        return viewOf(hand).makerAt(viewOf(hand).indexAt(place)).label();
     }
 
     public boolean isMarked(int hand, int place, char kind) throws IndexOutOfBoundsException, IllegalArgumentException, NoSuchElementException {
         needHand(hand);
         needKind(kind);
         needLetter(viewOf(hand), place);
-        return (viewOf(hand).marksAt(place) & bitOf(kind)) != 0;
+        return (viewOf(hand).marksAt(viewOf(hand).indexAt(place)) & bitOf(kind)) != 0;
     }
 
     public int runs(int hand) throws IndexOutOfBoundsException {
         needHand(hand);
         View view = viewOf(hand);
         int many = 0;
-        for (int place = 0; place < view.size(); place++) {
-            if (place == 0 || view.marksAt(place) != view.marksAt(place - 1)) {
+        for (int i = 0; i < view.pieces(); i++) {
+            if (i == 0 || view.marksAt(i) != view.marksAt(i - 1)) {
                 many++;
             }
         }
@@ -254,10 +261,10 @@ public final class Manypens {
             return edit.label();
         }
         if (what == 'f') {
-            return view.firsts.at(index);
+            return told(view.placeOf(view.firsts.at(index)));
         }
         if (what == 'l') {
-            return view.ends.at(index) - 1;
+            return told(view.placeOf(view.ends.at(index)) - 1);
         }
         if (what == 'c') {
             return edit.code;
@@ -269,14 +276,14 @@ public final class Manypens {
         needHand(hand);
         View view = viewOf(hand);
         needPlace(place, view.size());
-        int old = view.placeBehind(hands[hand].cursor);
+        long old = view.placeBehind(hands[hand].cursor);
         hands[hand].cursor = view.letterAhead(place);
-        return old;
+        return told(old);
     }
 
     public int cursor(int hand) throws IndexOutOfBoundsException {
         needHand(hand);
-        return viewOf(hand).placeBehind(hands[hand].cursor);
+        return told(viewOf(hand).placeBehind(hands[hand].cursor));
     }
 
     // ---- on the way
@@ -379,7 +386,7 @@ public final class Manypens {
         needHand(hand);
         needStep(hand, step);
         goBack(hand, step);
-        return past.size();
+        return told(past.size());
     }
 
     public char signThen(int hand, int step, int place) throws IndexOutOfBoundsException, NoSuchElementException {
@@ -387,7 +394,7 @@ public final class Manypens {
         needStep(hand, step);
         goBack(hand, step);
         needLetter(past, place);
-        return (char) book.signOf(past.letterAt(place));
+        return (char) book.signs.signOf(past.letterAt(place));
     }
 
     public int differ(int hand, int other) throws IndexOutOfBoundsException {
@@ -395,7 +402,7 @@ public final class Manypens {
         needHand(other);
         View one = viewOf(hand);
         View two = viewOf(other);
-        return one.size() + two.size() - 2 * one.manyInCommon(two);
+        return told(one.size() + two.size() - 2 * one.manyInCommon(two));
     }
 
     public boolean isAlike(int hand, int other) throws IndexOutOfBoundsException {
@@ -410,7 +417,7 @@ public final class Manypens {
         }
         // All have heard the same, so what one of them sees is what is left for all.
         View view = viewOf(0);
-        int many = row.size() - view.size();
+        long many = row.size() - view.size();
         for (int id = 0; id < ALL; id++) {
             view.settle(book.editAt(id));
         }
@@ -422,12 +429,12 @@ public final class Manypens {
         for (int hand = 0; hand < HANDS; hand++) {
             hands[hand].startAnew();
         }
-        return many;
+        return told(many);
     }
 
     public int kept(int hand) throws IndexOutOfBoundsException {
         needHand(hand);
-        return viewOf(hand).kept;
+        return told(viewOf(hand).kept);
     }
 
     // ---- figures
@@ -438,10 +445,10 @@ public final class Manypens {
         if (view.size() == 0) {
             throw new ArithmeticException("no letters");
         }
-        int many = 0;
-        for (int place = 0; place < view.size(); place++) {
-            if (book.makerOf(view.letterAt(place)).hand != hand) {
-                many++;
+        long many = 0;
+        for (int i = 0; i < view.pieces(); i++) {
+            if (view.makerAt(i).hand != hand) {
+                many += view.manyAt(i);
             }
         }
         return (float) many / (float) view.size();
@@ -454,8 +461,8 @@ public final class Manypens {
             throw new ArithmeticException("no letters");
         }
         long sum = 0;
-        for (int place = 0; place < view.size(); place++) {
-            sum += book.makerOf(view.letterAt(place)).time;
+        for (int i = 0; i < view.pieces(); i++) {
+            sum += view.makerAt(i).time * view.manyAt(i);
         }
         return (double) sum / (double) view.size();
     }
@@ -467,10 +474,7 @@ public final class Manypens {
             for (int of = 0; of < HANDS; of++) {
                 sum = 31 * sum + hands[hand].heard[of];
             }
-            for (int place = 0; place < view.size(); place++) {
-                sum = 31 * sum + book.signOf(view.letterAt(place));
-                sum = 31 * sum + view.marksAt(place);
-            }
+            sum = sumOn(sum, view);
             sum = 31 * sum + view.placeBehind(hands[hand].cursor);
             sum = 31 * sum + hands[hand].way.size();
         }
@@ -495,6 +499,17 @@ public final class Manypens {
         return true;
     }
 
+    /** Goes on with the sum of all over the signs and the marks of a text. */
+    private long sumOn(long before, View view) {
+        long sum = before;
+        for (int i = 0; i < view.pieces(); i++) {
+            long many = view.manyAt(i);
+            long signs = book.signs.sumOf(view.letterAt(view.placeOf(i)), many);
+            sum = sum * Signs.power(many) + 31 * signs + view.marksAt(i) * Signs.ones(many);
+        }
+        return sum;
+    }
+
     // ---- what a call needs
 
     private void needHand(int hand) {
@@ -503,7 +518,7 @@ public final class Manypens {
         }
     }
 
-    private void needPlace(int place, int last) {
+    private void needPlace(int place, long last) {
         if (place < 0 || place > last) {
             throw new NoSuchElementException("no such place");
         }
@@ -539,8 +554,8 @@ public final class Manypens {
         }
     }
 
-    private void needEdit(int hand, int letters, int taken) {
-        if (book.made[hand] >= EDITS || !book.hasRoom(letters, taken)) {
+    private void needEdit(int hand) {
+        if (book.made[hand] >= EDITS) {
             throw new IllegalStateException("too many edits");
         }
     }
@@ -559,6 +574,11 @@ public final class Manypens {
 
     // ---- making edits
 
+    /** There can be more letters than an int can tell; then it is the greatest one. */
+    private static int told(long many) {
+        return (int) Math.min(many, Integer.MAX_VALUE);
+    }
+
     private static int bitOf(char kind) {
         return kind == 'b' ? B : I;
     }
@@ -567,23 +587,45 @@ public final class Manypens {
         return new Edit(hand, book.made[hand] + 1, hands[hand].latest + 1, hands[hand].heard);
     }
 
+    /** Cuts letters of a text free, so that they are whole pieces; returns what the hand sees then. */
+    private View cutOut(int hand, int place, int many) {
+        View view = viewOf(hand);
+        long first = view.letterAt(place);
+        long last = view.letterAt((long) place + many - 1);
+        row.cutBehind(first - 1);
+        row.cutBehind(last);
+        return viewOf(hand);
+    }
+
     private void takeLetters(Edit edit, View view, int place, int many) {
-        for (int i = 0; i < many; i++) {
-            book.addTaken(edit, view.letterAt(place + i));
+        int end = view.indexAt((long) place + many);
+        for (int i = view.indexAt(place); i < end; i++) {
+            book.pieces.addTaker(view.pieceAt(i), edit.id);
         }
     }
 
-    private Edit putTyped(int hand, int place, int many) {
-        View view = viewOf(hand);
-        Edit edit = newEdit(hand);
-        takeLetters(edit, view, place, many);
-        edit.origin = view.letterAhead(place);
-        for (int i = 0; i < typed.size(); i++) {
-            book.addLetter(edit, typed.at(i));
+    private void copyLetters(Edit edit, View view, int place, int many) {
+        edit.firstLetter = book.signs.nextLetter();
+        edit.letters = many;
+        int end = view.indexAt((long) place + many);
+        for (int i = view.indexAt(place); i < end; i++) {
+            book.signs.copy(view.letterAt(view.placeOf(i)), view.manyAt(i));
         }
+    }
+
+    private void spanLetters(Edit edit, View view, int place, int many) {
+        edit.from = view.letterAt(place);
+        edit.to = view.letterAt((long) place + many - 1);
+        edit.isToWithin = true;
+    }
+
+    private void putTyped(Edit edit, long origin) {
+        edit.origin = origin;
+        edit.firstLetter = book.signs.nextLetter();
+        edit.letters = typed.size();
+        book.signs.write(typed);
         typed.clear();
         makeChange(edit);
-        return edit;
     }
 
     private void makeChange(Edit edit) {
@@ -606,6 +648,7 @@ public final class Manypens {
     private void send(Edit edit) {
         book.add(edit);
         if (edit.letters > 0) {
+            row.cutBehind(edit.origin);
             row.weave(edit);
             row.number();
         }
@@ -674,7 +717,7 @@ public final class Manypens {
 
     private View viewOf(int hand) {
         Hand looker = hands[hand];
-        if (looker.isStale) {
+        if (looker.isStale || looker.view.isOld()) {
             looker.view.see(looker.heard);
             looker.view.dress();
             looker.isStale = false;
@@ -683,14 +726,15 @@ public final class Manypens {
     }
 
     private void goBack(int hand, int step) {
-        int[] counts = book.base.clone();
+        System.arraycopy(book.base, 0, heardThen, 0, HANDS);
         for (int i = 0; i < step; i++) {
-            counts[book.editAt(hands[hand].past.at(i)).hand]++;
+            heardThen[book.editAt(hands[hand].past.at(i)).hand]++;
         }
-        past.see(counts);
+        past.see(heardThen);
     }
 
     private void hearAnew(int hand) {
+        // The text of a view that is about to be seen anew is free to hold them for a while.
         row.gatherBase(anew.text);
         anew.row.lay(anew.text);
         forOne.start(book.base, hands[hand].heard);
@@ -708,7 +752,8 @@ public final class Manypens {
 
     /** A row of numbers that gets room as it needs it; what is outside of it reads 0. */
     private static final class Ints {
-        private static final int MOST = MOST_TAKEN;
+        /** Far above what any run can need. */
+        private static final int MOST = 1 << 20;
 
         private int[] all;
         private int size;
@@ -790,6 +835,83 @@ public final class Manypens {
         }
     }
 
+    /** The same for longs. */
+    private static final class Longs {
+        private static final int MOST = 1 << 20;
+
+        private long[] all;
+        private int size;
+
+        Longs(int room) {
+            all = new long[room < 1 ? 1 : room];
+        }
+
+        int size() {
+            return size;
+        }
+
+        long at(int index) {
+            return index >= 0 && index < size ? all[index] : 0;
+        }
+
+        void set(int index, long value) {
+            if (index >= 0 && index < size) {
+                all[index] = value;
+            }
+        }
+
+        void clear() {
+            size = 0;
+        }
+
+        void add(long value) {
+            if (makeRoom(size + 1)) {
+                all[size] = value;
+                size++;
+            }
+        }
+
+        void addAt(int index, long value) {
+            if (index >= 0 && index <= size && makeRoom(size + 1)) {
+                System.arraycopy(all, index, all, index + 1, size - index);
+                all[index] = value;
+                size++;
+            }
+        }
+
+        void widen(int many) {
+            if (many > size && makeRoom(many)) {
+                Arrays.fill(all, size, many, 0);
+                size = many;
+            }
+        }
+
+        /** In a row that rises: how many stand in it that are less. */
+        int manyBelow(long value) {
+            int low = 0;
+            int high = size;
+            while (low < high) {
+                int middle = low + (high - low) / 2;
+                if (all[middle] < value) {
+                    low = middle + 1;
+                } else {
+                    high = middle;
+                }
+            }
+            return low;
+        }
+
+        private boolean makeRoom(int many) {
+            if (many > MOST) {
+                return false;
+            }
+            if (many > all.length) {
+                all = Arrays.copyOf(all, Math.min(MOST, Math.max(many, 2 * all.length)));
+            }
+            return true;
+        }
+    }
+
     /** An edit, and what it does; what it does not do stays 0. */
     private static final class Edit {
         private static final int UNDOING = 1;
@@ -802,17 +924,15 @@ public final class Manypens {
         private final int[] leaning;
         private int group;
         private int turning;
-        private int origin;
-        private int firstLetter;
-        private int letters;
-        private int firstTaken;
-        private int taken;
+        private long origin;
+        private long firstLetter;
+        private long letters;
         private int mark;
         private boolean isOn;
         private boolean isComment;
         private int code;
-        private int from;
-        private int to;
+        private long from;
+        private long to;
         private boolean isToWithin;
 
         Edit(int hand, int number, int time, int[] heard) {
@@ -832,17 +952,14 @@ public final class Manypens {
         }
     }
 
-    /** All edits and all letters. Letters are numbered from 1 as they are made. */
+    /** All edits, and all letters in their pieces, with their signs. */
     private static final class Book {
         private final Edit none;
         private final Edit[] edits;
         private final int[] made;
         private final int[] base;
-        private final Ints signs;
-        private final Ints makers;
-        private final Ints struck;
-        private int strike;
-        private final Ints taken;
+        private final Pieces pieces;
+        private final Signs signs;
         private final Ints marks;
         private final Ints comments;
 
@@ -851,13 +968,8 @@ public final class Manypens {
             edits = new Edit[ALL];
             made = new int[HANDS];
             base = new int[HANDS];
-            signs = new Ints(128);
-            makers = new Ints(128);
-            struck = new Ints(128);
-            signs.widen(1);
-            makers.widen(1);
-            struck.widen(1);
-            taken = new Ints(64);
+            pieces = new Pieces();
+            signs = new Signs();
             marks = new Ints(32);
             comments = new Ints(32);
         }
@@ -871,38 +983,9 @@ public final class Manypens {
             return number < 1 || number > EDITS ? none : editAt(hand * EDITS + number - 1);
         }
 
-        int signOf(int letter) {
-            return signs.at(letter);
-        }
-
-        Edit makerOf(int letter) {
-            return editAt(makers.at(letter));
-        }
-
-        int manyLetters() {
-            return signs.size();
-        }
-
-        boolean hasRoom(int letters, int more) {
-            return letters <= MOST_LETTERS - signs.size() && more <= MOST_TAKEN - taken.size();
-        }
-
-        void addLetter(Edit edit, int sign) {
-            if (edit.letters == 0) {
-                edit.firstLetter = signs.size();
-            }
-            edit.letters++;
-            signs.add(sign);
-            makers.add(edit.id);
-            struck.add(0);
-        }
-
-        void addTaken(Edit edit, int letter) {
-            if (edit.taken == 0) {
-                edit.firstTaken = taken.size();
-            }
-            edit.taken++;
-            taken.add(letter);
+        /** Which edit put the letters of a piece. */
+        Edit makerOf(int piece) {
+            return editAt(pieces.makers.at(piece));
         }
 
         void add(Edit edit) {
@@ -911,6 +994,9 @@ public final class Manypens {
             }
             edits[edit.id] = edit;
             made[edit.hand]++;
+            if (edit.letters > 0) {
+                pieces.add(edit);
+            }
             if (edit.mark != 0) {
                 addMark(edit);
             }
@@ -928,20 +1014,6 @@ public final class Manypens {
             marks.addAt(at, edit.id);
         }
 
-        void startStriking() {
-            strike++;
-        }
-
-        void strikeTaken(Edit edit) {
-            for (int i = 0; i < edit.taken; i++) {
-                struck.set(taken.at(edit.firstTaken + i), strike);
-            }
-        }
-
-        boolean isStruck(int letter) {
-            return struck.at(letter) == strike;
-        }
-
         void setBase() {
             System.arraycopy(made, 0, base, 0, HANDS);
         }
@@ -951,55 +1023,278 @@ public final class Manypens {
         }
     }
 
-    /** Letters in their order, as a chain from the begin on. */
-    private static final class Row {
-        private final Book book;
-        private final Ints next;
-        private final Ints order;
-        private int size;
+    /**
+     * All letters, which are numbered from 1 as they are made, in pieces. A piece is told by a number of its
+     * own, from 1; when it is cut, the letters ahead keep that.
+     */
+    private static final class Pieces {
+        private final Longs firsts;
+        private final Longs sizes;
+        private final Ints makers;
+        /** For each piece WORDS longs, as a set of the edits that took its letters. */
+        private final Longs takers;
+        /** The pieces by their letters, and their first letters. */
+        private final Ints sorted;
+        private final Longs starts;
 
-        Row(Book book) {
-            this.book = book;
-            next = new Ints(128);
-            order = new Ints(128);
-            next.widen(1);
-            order.widen(1);
+        Pieces() {
+            firsts = new Longs(32);
+            sizes = new Longs(32);
+            makers = new Ints(32);
+            takers = new Longs(32 * WORDS);
+            sorted = new Ints(32);
+            starts = new Longs(32);
+            addLast(NO_LETTER, 0, -1);
         }
 
         int size() {
+            return sorted.size();
+        }
+
+        void add(Edit edit) {
+            addLast(edit.firstLetter, edit.letters, edit.id);
+        }
+
+        private void addLast(long first, long many, int maker) {
+            sorted.add(makers.size());
+            starts.add(first);
+            firsts.add(first);
+            sizes.add(many);
+            makers.add(maker);
+            takers.widen(makers.size() * WORDS);
+        }
+
+        /** Where the piece of a letter stands among those by their letters. */
+        int rankOf(long letter) {
+            return starts.manyBelow(letter + 1) - 1;
+        }
+
+        /** Cuts the piece that stands there, which keeps so many letters; returns the one of the rest. */
+        int cut(int rank, long many) {
+            int piece = sorted.at(rank);
+            int rest = makers.size();
+            long first = firsts.at(piece) + many;
+            sorted.addAt(rank + 1, rest);
+            starts.addAt(rank + 1, first);
+            firsts.add(first);
+            sizes.add(sizes.at(piece) - many);
+            sizes.set(piece, many);
+            makers.add(makers.at(piece));
+            for (int word = 0; word < WORDS; word++) {
+                takers.add(takers.at(piece * WORDS + word));
+            }
+            return rest;
+        }
+
+        void addTaker(int piece, int id) {
+            int at = piece * WORDS + id / BITS;
+            takers.set(at, takers.at(at) | 1L << id % BITS);
+        }
+
+        boolean isTaken(int piece, long[] inForce) {
+            for (int word = 0; word < WORDS && word < inForce.length; word++) {
+                if ((takers.at(piece * WORDS + word) & inForce[word]) != 0) {
+                    return true;
+                }
+            }
+            return false;
+        }
+    }
+
+    /**
+     * The sign of each letter. Letters that were made one behind the other are a stretch; its signs are
+     * written down, or are those of earlier letters, which were moved.
+     */
+    private static final class Signs {
+        /** In the sum over all, each letter has two parts, and each part weighs 31 times the next one. */
+        private static final long WEIGHT = 31 * 31;
+
+        private final Ints written;
+        private final Longs starts;
+        /** The letter whose sign the first one has; of a stretch that is written down, below 1: less where it is. */
+        private final Longs sources;
+        /** What the sum of all letters ahead of the stretch has more than that of those ahead of its source. */
+        private final Longs shifts;
+        private long many;
+        private long sum;
+
+        Signs() {
+            written = new Ints(64);
+            starts = new Longs(32);
+            sources = new Longs(32);
+            shifts = new Longs(32);
+        }
+
+        long nextLetter() {
+            return many + 1;
+        }
+
+        void write(Ints signs) {
+            starts.add(nextLetter());
+            sources.add(-written.size());
+            shifts.add(sum);
+            for (int i = 0; i < signs.size(); i++) {
+                written.add(signs.at(i));
+                sum = sum * WEIGHT + signs.at(i);
+            }
+            many += signs.size();
+        }
+
+        /** Makes letters that have the signs of these, which stand one behind the other. */
+        void copy(long first, long more) {
+            int last = starts.size() - 1;
+            if (sources.at(last) < 1 || sources.at(last) - starts.at(last) != first - nextLetter()) {
+                starts.add(nextLetter());
+                sources.add(first);
+                shifts.add(sum - sumTo(first - 1));
+            }
+            sum = sum * power(more) + sumOf(first, more);
+            many += more;
+        }
+
+        int signOf(long letter) {
+            long at = letter;
+            // Each source is of an earlier edit, so there are no more steps than edits.
+            for (int i = 0; i <= ALL; i++) {
+                int stretch = starts.manyBelow(at + 1) - 1;
+                at = sources.at(stretch) + at - starts.at(stretch);
+                if (sources.at(stretch) < 1) {
+                    return written.at((int) (at - 2 * sources.at(stretch)));
+                }
+            }
+            return 0;
+        }
+
+        /** The sum of some letters one behind the other: the sign of the last one, WEIGHT times the one ahead, and so on. */
+        long sumOf(long first, long more) {
+            return sumTo(first + more - 1) - sumTo(first - 1) * power(more);
+        }
+
+        /** The same of all letters up to one. */
+        private long sumTo(long letter) {
+            long all = 0;
+            long at = letter;
+            for (int i = 0; i <= ALL && at > 0; i++) {
+                int stretch = starts.manyBelow(at + 1) - 1;
+                long within = at - starts.at(stretch) + 1;
+                all += shifts.at(stretch) * power(within);
+                long source = sources.at(stretch);
+                if (source < 1) {
+                    return all + sumOfWritten(-source, within);
+                }
+                at = source + within - 1;
+            }
+            return all;
+        }
+
+        private long sumOfWritten(long first, long more) {
+            long part = 0;
+            for (int i = 0; i < more && i < MOST_TYPED; i++) {
+                part = part * WEIGHT + written.at((int) first + i);
+            }
+            return part;
+        }
+
+        /** WEIGHT so many times by itself, as a long that goes round. */
+        static long power(long times) {
+            long power = 1;
+            long factor = WEIGHT;
+            for (long left = times; left > 0; left >>= 1) {
+                if ((left & 1) != 0) {
+                    power *= factor;
+                }
+                factor *= factor;
+            }
+            return power;
+        }
+
+        /** The sum of so many letters if the sign of each were 1. */
+        static long ones(long times) {
+            long ones = 0;
+            long factor = WEIGHT;
+            long more = 1;
+            for (long left = times; left > 0; left >>= 1) {
+                if ((left & 1) != 0) {
+                    ones = ones * factor + more;
+                }
+                more = more * factor + more;
+                factor *= factor;
+            }
+            return ones;
+        }
+    }
+
+    /** Pieces in their order, as a chain from the begin on. */
+    private static final class Row {
+        private final Book book;
+        private final Pieces pieces;
+        private final Ints next;
+        private final Longs ahead;
+        private int links;
+        private long size;
+        private int changes;
+
+        Row(Book book) {
+            this.book = book;
+            pieces = book.pieces;
+            next = new Ints(32);
+            ahead = new Longs(32);
+            next.widen(1);
+            ahead.widen(1);
+        }
+
+        /** How many letters. */
+        long size() {
             return size;
         }
 
-        int behind(int letter) {
-            return next.at(letter);
+        /** How many letters stand ahead of a letter. */
+        long aheadOf(long letter) {
+            int piece = pieces.sorted.at(pieces.rankOf(letter));
+            return ahead.at(piece) + letter - pieces.firsts.at(piece);
         }
 
-        /** From 1; the begin has 0. */
-        int orderOf(int letter) {
-            return order.at(letter);
+        /** Sees to it that a piece ends with this letter. */
+        void cutBehind(long letter) {
+            int rank = pieces.rankOf(letter);
+            int piece = pieces.sorted.at(rank);
+            long left = letter - pieces.firsts.at(piece) + 1;
+            if (left < 1 || left >= pieces.sizes.at(piece)) {
+                return;
+            }
+            int rest = pieces.cut(rank, left);
+            next.widen(rest + 1);
+            ahead.widen(rest + 1);
+            next.set(rest, next.at(piece));
+            next.set(piece, rest);
+            ahead.set(rest, ahead.at(piece) + left);
+            links++;
+            changes++;
         }
 
-        /** Gathers the letters that were in the row ahead of all steps. */
-        void gatherBase(Ints letters) {
-            letters.clear();
-            int letter = next.at(NO_LETTER);
-            for (int i = 0; i < size && letter != NO_LETTER; i++) {
-                if (book.isBase(book.makerOf(letter))) {
-                    letters.add(letter);
+        /** Gathers the pieces of the letters that were in the row ahead of all steps. */
+        void gatherBase(Ints base) {
+            base.clear();
+            int piece = next.at(NO_PIECE);
+            for (int i = 0; i < links && piece != NO_PIECE; i++) {
+                if (book.isBase(book.makerOf(piece))) {
+                    base.add(piece);
                 }
-                letter = next.at(letter);
+                piece = next.at(piece);
             }
         }
 
-        void lay(Ints letters) {
-            next.widen(book.manyLetters());
-            int last = NO_LETTER;
-            for (int i = 0; i < letters.size(); i++) {
-                next.set(last, letters.at(i));
-                last = letters.at(i);
+        void lay(Ints all) {
+            next.widen(pieces.size());
+            links = all.size();
+            size = 0;
+            int last = NO_PIECE;
+            for (int i = 0; i < links; i++) {
+                next.set(last, all.at(i));
+                last = all.at(i);
+                size += pieces.sizes.at(last);
             }
-            next.set(last, NO_LETTER);
-            size = letters.size();
+            next.set(last, NO_PIECE);
             number();
         }
 
@@ -1012,28 +1307,34 @@ public final class Manypens {
             if (edit.letters < 1) {
                 return;
             }
-            next.widen(book.manyLetters());
-            int last = edit.origin;
+            next.widen(pieces.size());
+            int last = pieces.sorted.at(pieces.rankOf(edit.origin));
             int rest = next.at(last);
-            for (int i = 0; i < size && rest != NO_LETTER && book.makerOf(rest).isAbove(edit); i++) {
+            for (int i = 0; i < links && rest != NO_PIECE && book.makerOf(rest).isAbove(edit); i++) {
                 last = rest;
                 rest = next.at(last);
             }
-            for (int i = 0; i < edit.letters; i++) {
-                next.set(last, edit.firstLetter + i);
-                last = edit.firstLetter + i;
+            int rank = pieces.rankOf(edit.firstLetter);
+            while (rank < pieces.size() && pieces.makers.at(pieces.sorted.at(rank)) == edit.id) {
+                next.set(last, pieces.sorted.at(rank));
+                last = pieces.sorted.at(rank);
+                links++;
+                rank++;
             }
             next.set(last, rest);
             size += edit.letters;
         }
 
         void number() {
-            order.widen(book.manyLetters());
-            int letter = next.at(NO_LETTER);
-            for (int i = 1; i <= size && letter != NO_LETTER; i++) {
-                order.set(letter, i);
-                letter = next.at(letter);
+            ahead.widen(pieces.size());
+            long many = 0;
+            int piece = next.at(NO_PIECE);
+            for (int i = 0; i < links && piece != NO_PIECE; i++) {
+                ahead.set(piece, many);
+                many += pieces.sizes.at(piece);
+                piece = next.at(piece);
             }
+            changes++;
         }
     }
 
@@ -1041,54 +1342,93 @@ public final class Manypens {
     private static final class View {
         private final Book book;
         private final Row row;
-        private final int[] isInForce;
+        private final long[] inForce;
         private final int[] isOff;
+        /** The pieces that are seen, by their indexes; their first places; how many letters are ahead in the row. */
         private final Ints text;
+        private final Longs places;
+        private final Longs aheads;
         private final Ints marks;
         private final Ints hung;
         private final Ints firsts;
         private final Ints ends;
-        private int kept;
+        private long size;
+        private long kept;
+        private int changes;
 
         View(Book book, Row row) {
             this.book = book;
             this.row = row;
-            isInForce = new int[ALL];
+            inForce = new long[WORDS];
             isOff = new int[EDITS];
-            text = new Ints(64);
-            marks = new Ints(64);
+            text = new Ints(32);
+            places = new Longs(32);
+            aheads = new Longs(32);
+            marks = new Ints(32);
             hung = new Ints(16);
             firsts = new Ints(16);
             ends = new Ints(16);
         }
 
-        int size() {
+        /** How many letters. */
+        long size() {
+            return size;
+        }
+
+        /** Pieces may have been cut, or got others between them, since it was seen. */
+        boolean isOld() {
+            return changes != row.changes;
+        }
+
+        int pieces() {
             return text.size();
         }
 
-        int letterAt(int place) {
-            return text.at(place);
+        int pieceAt(int index) {
+            return text.at(index);
         }
 
-        int letterAhead(int place) {
-            return place > 0 ? text.at(place - 1) : NO_LETTER;
+        long manyAt(int index) {
+            return book.pieces.sizes.at(text.at(index));
         }
 
-        int marksAt(int place) {
-            return marks.at(place);
+        Edit makerAt(int index) {
+            return book.makerOf(text.at(index));
+        }
+
+        int marksAt(int index) {
+            return marks.at(index);
+        }
+
+        /** The place of the first letter of a piece. */
+        long placeOf(int index) {
+            return index < places.size() ? places.at(index) : size;
+        }
+
+        /** The index of the piece in which a place is. */
+        int indexAt(long place) {
+            return place < size ? places.manyBelow(place + 1) - 1 : text.size();
+        }
+
+        long letterAt(long place) {
+            if (place < 0 || place >= size) {
+                return NO_LETTER;
+            }
+            int index = indexAt(place);
+            return book.pieces.firsts.at(text.at(index)) + place - places.at(index);
+        }
+
+        long letterAhead(long place) {
+            return letterAt(place - 1);
         }
 
         void see(int[] counts) {
+            Arrays.fill(inForce, 0);
             for (int hand = 0; hand < HANDS && hand < counts.length; hand++) {
                 judge(hand, counts[hand]);
             }
-            book.startStriking();
-            for (int id = 0; id < ALL; id++) {
-                if (isInForce[id] != 0) {
-                    book.strikeTaken(book.editAt(id));
-                }
-            }
             gather(counts);
+            changes = row.changes;
         }
 
         /** Finds which ones of the heard edits of a hand are in force. */
@@ -1100,31 +1440,45 @@ public final class Manypens {
                     isOff[edit.group] = edit.turning == Edit.UNDOING ? 1 : 0;
                 }
             }
-            for (int number = 1; number <= EDITS; number++) {
-                int group = book.editOf(hand, number).group;
-                boolean isOn = number <= many && group >= 0 && group < EDITS && isOff[group] == 0;
-                isInForce[hand * EDITS + number - 1] = isOn ? 1 : 0;
+            for (int number = 1; number <= many && number <= EDITS; number++) {
+                Edit edit = book.editOf(hand, number);
+                if (edit.group >= 0 && edit.group < EDITS && isOff[edit.group] == 0) {
+                    putInForce(edit.id);
+                }
             }
+        }
+
+        private void putInForce(int id) {
+            if (id >= 0 && id / BITS < WORDS) {
+                inForce[id / BITS] |= 1L << id % BITS;
+            }
+        }
+
+        private boolean isInForce(Edit edit) {
+            int id = edit.id;
+            return id >= 0 && id / BITS < WORDS && (inForce[id / BITS] & 1L << id % BITS) != 0;
         }
 
         private void gather(int[] counts) {
             text.clear();
+            places.clear();
+            aheads.clear();
+            size = 0;
             kept = 0;
-            int letter = row.behind(NO_LETTER);
-            for (int i = 0; i < row.size() && letter != NO_LETTER; i++) {
-                Edit maker = book.makerOf(letter);
+            int piece = row.next.at(NO_PIECE);
+            for (int i = 0; i < row.links && piece != NO_PIECE; i++) {
+                Edit maker = book.makerOf(piece);
                 if (maker.hand < counts.length && maker.number <= counts[maker.hand]) {
-                    kept++;
-                    if (isValid(maker) && !book.isStruck(letter)) {
-                        text.add(letter);
+                    kept += book.pieces.sizes.at(piece);
+                    if (isInForce(maker) && !book.pieces.isTaken(piece, inForce)) {
+                        text.add(piece);
+                        places.add(size);
+                        aheads.add(row.ahead.at(piece));
+                        size += book.pieces.sizes.at(piece);
                     }
                 }
-                letter = row.behind(letter);
+                piece = row.next.at(piece);
             }
-        }
-
-        private boolean isValid(Edit edit) {
-            return edit.id >= 0 && edit.id < ALL && isInForce[edit.id] != 0;
         }
 
         /** Lays the marks and hangs the comments on what is seen. */
@@ -1133,7 +1487,7 @@ public final class Manypens {
             marks.widen(text.size());
             for (int i = 0; i < book.marks.size(); i++) {
                 Edit edit = book.editAt(book.marks.at(i));
-                if (isValid(edit)) {
+                if (isInForce(edit)) {
                     lay(edit, firstOf(edit), endOf(edit));
                 }
             }
@@ -1142,16 +1496,16 @@ public final class Manypens {
             ends.clear();
             for (int i = 0; i < book.comments.size(); i++) {
                 Edit edit = book.editAt(book.comments.at(i));
-                if (isValid(edit)) {
+                if (isInForce(edit)) {
                     hang(edit, firstOf(edit), endOf(edit));
                 }
             }
         }
 
         private void lay(Edit edit, int first, int end) {
-            for (int place = first; place < end; place++) {
-                int others = marks.at(place) & ~edit.mark;
-                marks.set(place, edit.isOn ? others | edit.mark : others);
+            for (int index = first; index < end; index++) {
+                int others = marks.at(index) & ~edit.mark;
+                marks.set(index, edit.isOn ? others | edit.mark : others);
             }
         }
 
@@ -1173,35 +1527,29 @@ public final class Manypens {
             return own > first || own == first && book.editAt(hung.at(index)).label() > edit.label();
         }
 
-        /** The place of the first letter that is seen from there on in the row. */
-        private int placeFrom(int order) {
-            int low = 0;
-            int high = text.size();
-            while (low < high) {
-                int middle = low + (high - low) / 2;
-                if (row.orderOf(text.at(middle)) < order) {
-                    low = middle + 1;
-                } else {
-                    high = middle;
-                }
+        long placeBehind(long letter) {
+            if (letter == NO_LETTER) {
+                return 0;
             }
-            return low;
+            long ahead = row.aheadOf(letter) + 1;
+            int index = aheads.manyBelow(ahead) - 1;
+            return index < 0 ? 0 : places.at(index) + Math.min(manyAt(index), ahead - aheads.at(index));
         }
 
-        int placeBehind(int letter) {
-            return letter == NO_LETTER ? 0 : placeFrom(row.orderOf(letter) + 1);
-        }
-
-        /** The first place of a mark or a comment; one whose begin was forgotten for good has none. */
+        /**
+         * The index of the first piece of a mark or a comment; one whose begin was forgotten for good has
+         * none. A piece begins with its first letter and one ends with its last one, or begins with the
+         * letter up to which it goes: they were cut so.
+         */
         private int firstOf(Edit edit) {
-            return edit.from == NO_LETTER ? text.size() : placeFrom(row.orderOf(edit.from));
+            return edit.from == NO_LETTER ? text.size() : aheads.manyBelow(row.aheadOf(edit.from));
         }
 
         private int endOf(Edit edit) {
             if (edit.to == NO_LETTER) {
                 return text.size();
             }
-            return placeFrom(row.orderOf(edit.to) + (edit.isToWithin ? 1 : 0));
+            return aheads.manyBelow(row.aheadOf(edit.to) + (edit.isToWithin ? 1 : 0));
         }
 
         /** Lets a mark or a comment begin and end at letters that are seen. */
@@ -1210,27 +1558,27 @@ public final class Manypens {
                 return;
             }
             if (edit.from != NO_LETTER) {
-                edit.from = text.at(firstOf(edit));
+                edit.from = letterAt(placeOf(firstOf(edit)));
             }
-            if (edit.to != NO_LETTER) {
-                int left = text.at(placeFrom(row.orderOf(edit.to)));
-                if (left != edit.to) {
-                    edit.to = left;
-                    edit.isToWithin = false;
-                }
+            if (edit.to != NO_LETTER && !isSeen(edit.to)) {
+                edit.to = letterAt(placeOf(endOf(edit)));
+                edit.isToWithin = false;
             }
         }
 
-        int manyInCommon(View other) {
-            int many = 0;
+        private boolean isSeen(long letter) {
+            return letterAt(placeBehind(letter) - 1) == letter;
+        }
+
+        long manyInCommon(View other) {
+            long many = 0;
             int there = 0;
             for (int here = 0; here < text.size(); here++) {
-                int order = row.orderOf(text.at(here));
-                while (there < other.text.size() && row.orderOf(other.text.at(there)) < order) {
+                while (there < other.text.size() && other.aheads.at(there) < aheads.at(here)) {
                     there++;
                 }
                 if (there < other.text.size() && other.text.at(there) == text.at(here)) {
-                    many++;
+                    many += manyAt(here);
                 }
             }
             return many;
@@ -1258,7 +1606,7 @@ public final class Manypens {
         private final Ints sizes;
         private boolean isOpen;
         private int opened;
-        private int cursor;
+        private long cursor;
 
         Hand(View view) {
             this.view = view;

@@ -1,3 +1,4 @@
+import java.util.ArrayDeque;
 import java.util.ArrayList;
 import java.util.Collections;
 import java.util.HashMap;
@@ -95,11 +96,29 @@ public final class FuzzTest {
             return row;
         }
 
+        // a chain of letters can be too long for a call in a call
         void walk(Letter at, Map<Letter, List<Letter>> kids, List<Letter> row) {
-            for (Letter l : kids.getOrDefault(at, List.of())) {
+            ArrayDeque<Letter> rest = new ArrayDeque<>();
+            pushAll(kids.get(at), rest);
+            while (!rest.isEmpty()) {
+                Letter l = rest.pop();
                 row.add(l);
-                walk(l, kids, row);
+                pushAll(kids.get(l), rest);
             }
+        }
+
+        void pushAll(List<Letter> list, ArrayDeque<Letter> rest) {
+            for (int i = list == null ? -1 : list.size() - 1; i >= 0; i--) {
+                rest.push(list.get(i));
+            }
+        }
+
+        Map<Letter, Integer> positions(Set<PEdit> heard) {
+            Map<Letter, Integer> at = new HashMap<>();
+            for (Letter l : row(heard)) {
+                at.put(l, at.size());
+            }
+            return at;
         }
 
         Set<PEdit> force(Iterable<PEdit> heardInOrder) {
@@ -138,26 +157,36 @@ public final class FuzzTest {
             return text;
         }
 
-        boolean covers(PEdit e, Letter l, List<Letter> row) {
+        boolean covers(PEdit e, Letter l, Map<Letter, Integer> at) {
             if (e.isDead) {
                 return false;
             }
-            int p = row.indexOf(l);
-            if (p < row.indexOf(e.from)) {
+            int p = at.get(l);
+            if (p < at.get(e.from)) {
                 return false;
             }
             if (e.isToEnd) {
                 return true;
             }
-            int to = row.indexOf(e.to);
+            int to = at.get(e.to);
             return e.isUpTo ? p < to : p <= to;
         }
 
-        boolean marked(Set<PEdit> heard, Letter l, char kind) {
-            List<Letter> row = row(heard);
+        /** Of each letter 1 if it has the mark 'b', and 2 if 'i'. */
+        List<Integer> marks(Set<PEdit> heard, List<Letter> letters) {
+            Map<Letter, Integer> at = positions(heard);
+            Set<PEdit> force = force(heard);
+            List<Integer> marks = new ArrayList<>();
+            for (Letter l : letters) {
+                marks.add((isMarked(force, l, 'b', at) ? 1 : 0) + (isMarked(force, l, 'i', at) ? 2 : 0));
+            }
+            return marks;
+        }
+
+        boolean isMarked(Set<PEdit> force, Letter l, char kind, Map<Letter, Integer> at) {
             PEdit best = null;
-            for (PEdit e : force(heard)) {
-                if (e.kind == kind && covers(e, l, row)) {
+            for (PEdit e : force) {
+                if (e.kind == kind && covers(e, l, at)) {
                     if (best == null || e.time > best.time || e.time == best.time && e.hand > best.hand) {
                         best = e;
                     }
@@ -168,7 +197,7 @@ public final class FuzzTest {
 
         /** {number, first, last, code} of each comment, in their order. */
         List<int[]> hung(Set<PEdit> heard) {
-            List<Letter> row = row(heard);
+            Map<Letter, Integer> row = positions(heard);
             List<Letter> text = text(heard);
             List<int[]> list = new ArrayList<>();
             for (PEdit e : force(heard)) {
@@ -194,7 +223,7 @@ public final class FuzzTest {
             if (h.cursor == null) {
                 return 0;
             }
-            List<Letter> text = text(h.heard);
+            Set<Letter> text = new HashSet<>(text(h.heard));
             int many = 0;
             for (Letter l : row(h.heard)) {
                 if (text.contains(l)) {
@@ -451,8 +480,8 @@ public final class FuzzTest {
                     room(0, h);
                     PEdit e = make(a[0]);
                     e.taken.addAll(text.subList(a[1], a[1] + a[2]));
-                    List<Letter> rest = new ArrayList<>(text);
-                    rest.removeAll(e.taken);
+                    List<Letter> rest = new ArrayList<>(text.subList(0, a[1]));
+                    rest.addAll(text.subList(a[1] + a[2], text.size()));
                     List<Character> signs = new ArrayList<>();
                     for (Letter l : e.taken) {
                         signs.add(l.sign);
@@ -500,12 +529,11 @@ public final class FuzzTest {
                 case "isMarked":
                     kind(a[2]);
                     letters(text, a[1], 1);
-                    return marked(h.heard, text.get(a[1]), (char) a[2]);
+                    return (marks(h.heard, text.subList(a[1], a[1] + 1)).get(0) & (a[2] == 'b' ? 1 : 2)) != 0;
                 case "runs": {
                     int n = 0;
                     int last = -1;
-                    for (Letter l : text) {
-                        int m = marks(h.heard, l);
+                    for (int m : marks(h.heard, text)) {
                         n += m != last ? 1 : 0;
                         last = m;
                     }
@@ -584,9 +612,7 @@ public final class FuzzTest {
                 default: {
                     List<Letter> x = text(a.heard), y = text(b.heard);
                     if (!x.equals(y)) return false;
-                    for (Letter l : x) {
-                        if (marks(a.heard, l) != marks(b.heard, l)) return false;
-                    }
+                    if (!marks(a.heard, x).equals(marks(b.heard, y))) return false;
                     List<int[]> p = hung(a.heard), q = hung(b.heard);
                     if (p.size() != q.size()) return false;
                     for (int i = 0; i < p.size(); i++) {
@@ -597,13 +623,9 @@ public final class FuzzTest {
             }
         }
 
-        int marks(Set<PEdit> heard, Letter l) {
-            return (marked(heard, l, 'b') ? 1 : 0) + (marked(heard, l, 'i') ? 2 : 0);
-        }
-
         List<PEdit> missing(PHand has, PHand lacks) {
             List<PEdit> list = new ArrayList<>(has.heard);
-            list.removeAll(lacks.heard);
+            list.removeIf(lacks.heard::contains);
             list.sort((x, y) -> x.time != y.time ? x.time - y.time : x.hand - y.hand);
             return list;
         }
@@ -621,7 +643,8 @@ public final class FuzzTest {
                 if (h.heard.size() != edits.size()) throw new IllegalStateException();
             }
             List<Letter> row = row(hands[0].heard);
-            List<Letter> text = text(hands[0].heard);
+            List<Letter> seen = text(hands[0].heard);
+            Set<Letter> text = new HashSet<>(seen);
             for (PEdit e : edits) {
                 if (e.kind == 0 && !e.isComment || e.isDead) {
                     continue;
@@ -639,11 +662,11 @@ public final class FuzzTest {
             for (PHand h : hands) {
                 if (h.cursor != null && !text.contains(h.cursor)) {
                     int p = row.indexOf(h.cursor);
-                    Letter seen = null;
+                    Letter last = null;
                     for (int i = 0; i < p; i++) {
-                        seen = text.contains(row.get(i)) ? row.get(i) : seen;
+                        last = text.contains(row.get(i)) ? row.get(i) : last;
                     }
-                    h.cursor = seen;
+                    h.cursor = last;
                 }
                 h.steps.clear();
                 h.groups.clear();
@@ -651,12 +674,12 @@ public final class FuzzTest {
                 h.again.clear();
                 h.open = null;
             }
-            base = text;
+            base = seen;
             baseHeard = new LinkedHashSet<>(hands[0].heard);
             return row.size() - text.size();
         }
 
-        Letter leftFrom(Letter l, List<Letter> row, List<Letter> text) {
+        Letter leftFrom(Letter l, List<Letter> row, Set<Letter> text) {
             for (int i = row.indexOf(l); i < row.size(); i++) {
                 if (text.contains(row.get(i))) {
                     return row.get(i);
@@ -671,9 +694,11 @@ public final class FuzzTest {
                 for (int j = 0; j < 5; j++) {
                     s = 31 * s + (Integer) two("heard", i, j);
                 }
-                for (Letter l : text(hands[i].heard)) {
-                    s = 31 * s + l.sign;
-                    s = 31 * s + marks(hands[i].heard, l);
+                List<Letter> text = text(hands[i].heard);
+                List<Integer> marks = marks(hands[i].heard, text);
+                for (int k = 0; k < text.size(); k++) {
+                    s = 31 * s + text.get(k).sign;
+                    s = 31 * s + marks.get(k);
                 }
                 s = 31 * s + place(hands[i]);
                 s = 31 * s + hands[i].way.size();
@@ -776,6 +801,10 @@ public final class FuzzTest {
         "move", "mark", "mark", "comment", "undo", "redo", "undo", "open", "close", "setCursor", "deliver", "deliver",
         "deliver", "deliver", "deliver", "meet", "repeat", "lose", "mark", "comment"};
 
+    /** The model makes each row anew for each answer, so its texts must not grow without end. */
+    static final int MOST_CROWDED = 300;
+
+    static int longest = 0;
     static Map<String, Integer> answered = new HashMap<>();
     static Map<String, Integer> refused = new HashMap<>();
 
@@ -839,6 +868,27 @@ public final class FuzzTest {
         return true;
     }
 
+    /** Two hands that see the same move letters that they both see, or take them, and meet: moved ones multiply. */
+    static boolean crowd(Random r, List<String> log, Pens m, Manypens x, int hands) {
+        int one = r.nextInt(hands), other = (one + 1 + r.nextInt(hands - 1)) % hands;
+        if (!check(log, m, x, "meet", one, other)) {
+            return false;
+        }
+        int size = m.text(m.hands[one].heard).size();
+        if (size == 0 || size > MOST_CROWDED) {
+            return check(log, m, x, "take", one, 0, size / 2);
+        }
+        for (int hand : new int[] {one, other}) {
+            int place = r.nextInt(3) == 0 ? r.nextInt(size) : 0;
+            int many = r.nextInt(3) == 0 ? 1 + r.nextInt(size - place) : size - place;
+            int[] a = {hand, place, many, r.nextInt(size - many + 1)};
+            if (!check(log, m, x, r.nextInt(12) == 0 ? "take" : "move", a)) {
+                return false;
+            }
+        }
+        return check(log, m, x, "meet", other, one) && check(log, m, x, "isAlike", other, one);
+    }
+
     static boolean run(long seed) {
         Random r = new Random(seed);
         Pens m = new Pens();
@@ -846,6 +896,7 @@ public final class FuzzTest {
         List<String> log = new ArrayList<>();
         int hands = 2 + r.nextInt(4);
         int often = 1 + r.nextInt(4);
+        boolean crowds = seed % 8 == 0;
         int forgetful = r.nextInt(3) == 0 ? 0 : 15 + r.nextInt(60);
         for (int i = 0; i < 480; i++) {
             if (forgetful > 0 && r.nextInt(forgetful) == 0) {
@@ -856,10 +907,16 @@ public final class FuzzTest {
                 i += 8;
                 if (!check(log, m, x, "forget")) return false;
             }
+            if (crowds && r.nextInt(6) == 0 && !crowd(r, log, m, x, hands)) {
+                return false;
+            }
             String[] from = r.nextInt(often + 1) > 0 ? MAKING : ALL;
             String name = from[r.nextInt(from.length)];
             if (!check(log, m, x, name, draw(r, name, m, hands))) return false;
             if (i % 5 == 0 && !check(log, m, x, "checksum")) return false;
+        }
+        for (PHand h : m.hands) {
+            longest = Math.max(longest, m.text(h.heard).size());
         }
         return checkAll(log, m, x);
     }
@@ -890,11 +947,16 @@ public final class FuzzTest {
 
     public static void main(String[] args) {
         int runs = args.length > 0 ? Integer.parseInt(args[0]) : 150;
-        for (int seed = 1; seed <= runs; seed++) {
+        int first = args.length > 1 ? Integer.parseInt(args[1]) : 1;
+        for (int seed = first; seed < first + runs; seed++) {
             if (!run(seed)) {
                 System.out.println("seed " + seed);
                 System.exit(1);
             }
+        }
+        if (longest <= MOST_CROWDED) {
+            System.out.println("no long text in these runs");
+            System.exit(1);
         }
         List<String> dull = new ArrayList<>();
         for (String name : ALL) {
@@ -907,6 +969,7 @@ public final class FuzzTest {
             System.exit(1);
         }
         if (args.length > 0) {
+            System.out.println("the longest text had " + longest + " letters");
             for (String name : ALL) {
                 System.out.println(name + " answered " + answered.get(name) + ", refused " + refused.get(name));
             }
