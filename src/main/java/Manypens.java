@@ -83,7 +83,9 @@ public final class Manypens {
         needTyped();
         needShort(view.size() + typed.size());
         needEdit(hand);
-        putTyped(newEdit(hand), view.letterAhead(place));
+        Edit edit = newEdit(hand);
+        useTyped(edit, view.letterAhead(place));
+        makeChange(edit);
         return told(viewOf(hand).size());
     }
 
@@ -106,7 +108,8 @@ public final class Manypens {
         Edit edit = newEdit(hand);
         View view = cutOut(hand, place, many);
         takeLetters(edit, view, place, many);
-        putTyped(edit, view.letterAhead(place));
+        useTyped(edit, view.letterAhead(place));
+        makeChange(edit);
         return told(viewOf(hand).size());
     }
 
@@ -160,7 +163,8 @@ public final class Manypens {
         needShort(view.size() + typed.size());
         needEdit(hand);
         Edit edit = newEdit(hand);
-        putTyped(edit, view.letterAhead(view.placeBehind(hands[hand].cursor)));
+        useTyped(edit, view.letterAhead(view.placeBehind(hands[hand].cursor)));
+        makeChange(edit);
         hands[hand].cursor = edit.firstLetter + edit.letters - 1;
         return told(viewOf(hand).placeBehind(hands[hand].cursor));
     }
@@ -619,13 +623,12 @@ public final class Manypens {
         edit.isToWithin = true;
     }
 
-    private void putTyped(Edit edit, long origin) {
+    private void useTyped(Edit edit, long origin) {
         edit.origin = origin;
         edit.firstLetter = book.signs.nextLetter();
         edit.letters = typed.size();
-        book.signs.write(typed);
+        book.signs.writeDown(typed);
         typed.clear();
-        makeChange(edit);
     }
 
     private void makeChange(Edit edit) {
@@ -995,7 +998,7 @@ public final class Manypens {
             edits[edit.id] = edit;
             made[edit.hand]++;
             if (edit.letters > 0) {
-                pieces.add(edit);
+                pieces.add(edit.firstLetter, edit.letters, edit.id);
             }
             if (edit.mark != 0) {
                 addMark(edit);
@@ -1044,18 +1047,14 @@ public final class Manypens {
             takers = new Longs(32 * WORDS);
             sorted = new Ints(32);
             starts = new Longs(32);
-            addLast(NO_LETTER, 0, -1);
+            add(NO_LETTER, 0, -1);
         }
 
         int size() {
             return sorted.size();
         }
 
-        void add(Edit edit) {
-            addLast(edit.firstLetter, edit.letters, edit.id);
-        }
-
-        private void addLast(long first, long many, int maker) {
+        void add(long first, long many, int maker) {
             sorted.add(makers.size());
             starts.add(first);
             firsts.add(first);
@@ -1111,7 +1110,7 @@ public final class Manypens {
 
         private final Ints written;
         private final Longs starts;
-        /** The letter whose sign the first one has; of a stretch that is written down, below 1: less where it is. */
+        /** The letter whose sign the first one has; if it is written down, 0 less the index at which that is. */
         private final Longs sources;
         /** What the sum of all letters ahead of the stretch has more than that of those ahead of its source. */
         private final Longs shifts;
@@ -1129,7 +1128,7 @@ public final class Manypens {
             return many + 1;
         }
 
-        void write(Ints signs) {
+        void writeDown(Ints signs) {
             starts.add(nextLetter());
             sources.add(-written.size());
             shifts.add(sum);
@@ -1157,15 +1156,17 @@ public final class Manypens {
             // Each source is of an earlier edit, so there are no more steps than edits.
             for (int i = 0; i <= ALL; i++) {
                 int stretch = starts.manyBelow(at + 1) - 1;
-                at = sources.at(stretch) + at - starts.at(stretch);
-                if (sources.at(stretch) < 1) {
-                    return written.at((int) (at - 2 * sources.at(stretch)));
+                long within = at - starts.at(stretch);
+                long source = sources.at(stretch);
+                if (source < 1) {
+                    return written.at((int) (within - source));
                 }
+                at = source + within;
             }
             return 0;
         }
 
-        /** The sum of some letters one behind the other: the sign of the last one, WEIGHT times the one ahead, and so on. */
+        /** The sum of the signs of letters one behind the other, in which each weighs WEIGHT times as much as the next. */
         long sumOf(long first, long more) {
             return sumTo(first + more - 1) - sumTo(first - 1) * power(more);
         }

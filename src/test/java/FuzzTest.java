@@ -802,7 +802,7 @@ public final class FuzzTest {
         "deliver", "deliver", "deliver", "meet", "repeat", "lose", "mark", "comment"};
 
     /** The model makes each row anew for each answer, so its texts must not grow without end. */
-    static final int MOST_CROWDED = 300;
+    static final int MOST_CROWDED = 200;
 
     static int longest = 0;
     static Map<String, Integer> answered = new HashMap<>();

@@ -141,6 +141,8 @@ public final class PromisesTest {
         checksum();
         theorem();
         crowd();
+        multitude();
+        beyondInts();
         if (wrong != 0) {
             System.out.println(wrong + " wrong");
             System.exit(1);
@@ -1321,30 +1323,246 @@ public final class PromisesTest {
         }
     }
 
-    /** Hands that move the same letters at once make ever more of them; the calls must go on to end. */
+    /** Five hands that move the same letters at once make five times as many of them. */
     static void crowd() {
         promise = 7;
         Manypens x = start("abcdef");
-        long most = 6;
-        boolean isFull = false;
+        int most = 6;
         for (int round = 0; round < 10; round++) {
             for (int h = 0; h < 5; h++) {
-                try {
-                    due(0, x.move(h, 0, x.length(h), 0));
-                } catch (IllegalStateException e) {
-                    isFull = true;
-                }
+                due(0, x.move(h, 0, x.length(h), 0));
             }
             meetAll(x);
-            most = isFull ? most : most * 5;
-            if (!isFull) {
-                due((int) most, x.length(round % 5));
-            }
+            most *= 5;
+            due(most, x.length(round % 5));
+            due("cde", "" + x.signAt(1, 2) + x.signAt(2, most / 2) + x.signAt(3, most - 2));
             due(true, x.isTrue());
             x.mark(0, 0, x.length(0), 'b', round % 2 == 0, true);
+            due(1, x.runs(0));
             x.undo(0);
         }
-        due(true, most > 9000);
-        due(0, x.runs(0) - 1);
+        due(6 * 9765625, most);
+    }
+
+    /** Hands 0 and 1 both move all that they see, to its begin, so often, and hear of that. */
+    static void doubleText(Manypens x, int often) {
+        for (int i = 0; i < often; i++) {
+            due(0, x.move(0, 0, x.length(0), 0));
+            due(0, x.move(1, 0, x.length(1), 0));
+            due(2, x.meet(0, 1));
+        }
+    }
+
+    /** More letters than an array could hold at ease: all calls answer as they do for a few. */
+    static void multitude() {
+        Manypens x = start("abcde");
+        doubleText(x, 16);
+        int all = 5 << 16;
+        promise = 16;
+        due(all, x.length(0));
+        due(all, x.length(1));
+        due(5, x.length(2));
+        promise = 17;
+        for (int i = 0; i < all; i += 997) {
+            due((char) ('a' + i % 5), x.signAt(0, i));
+        }
+        due('e', x.signAt(1, all - 1));
+        refused(x, NONE, () -> x.signAt(0, all));
+        promise = 18;
+        due(116, x.birth(0, all / 2 - 1));
+        due(17, x.birth(0, all / 2));
+        promise = 41;
+        due(5 * ((1 << 17) - 1), x.kept(0));
+        promise = 42;
+        due(0.5f, x.othersShare(0));
+        due(1f, x.othersShare(4));
+        promise = 43;
+        due(17.0, x.meanTime(1));
+        promise = 44;
+        dueSum(x);
+
+        promise = 8;
+        due(18, x.mark(0, 99999, 100001, 'i', true, true));
+        promise = 19;
+        due("0110", "" + bit(x, 99998) + bit(x, 99999) + bit(x, 199999) + bit(x, 200000));
+        promise = 20;
+        due(3, x.runs(0));
+        promise = 9;
+        due(19, x.comment(0, 7, all - 14, 4));
+        promise = 22;
+        due(7, x.commentAt(0, 0, 'f'));
+        due(all - 8, x.commentAt(0, 0, 'l'));
+        promise = 23;
+        due(0, x.setCursor(0, 150000));
+        promise = 24;
+        due(150000, x.cursor(0));
+        promise = 44;
+        dueSum(x);
+
+        promise = 5;
+        due(all - 150000, x.take(0, 50000, 150000));
+        due(50000, x.cursor(0));
+        due("00", "" + bit(x, 49999) + bit(x, 50000));
+        due(all, x.length(1));
+        promise = 22;
+        due(all - 150008, x.commentAt(0, 0, 'l'));
+        promise = 38;
+        due(150000, x.differ(1, 0));
+        due(all - 150000 + 5, x.differ(0, 2));
+        promise = 39;
+        due(false, x.isAlike(0, 1));
+        promise = 6;
+        typed(x, "123456789012");
+        refused(x, STATE, () -> x.put(0, 0));
+        refused(x, STATE, () -> x.write(0));
+        refused(x, STATE, () -> x.replace(0, 0, all - 150049));
+        due(60, x.replace(0, 20, all - 150048));
+        due("abcdeabcdeabcdeabcde123456789012cdeabcdeabcdeabcdeabcdeabcde", text(x, 0));
+        due(32, x.cursor(0));
+        promise = 13;
+        due(1, x.undo(0));
+        due(all - 150000, x.length(0));
+        due(1, x.undo(0));
+        due(all, x.length(0));
+        due(150000, x.cursor(0));
+        promise = 14;
+        due(1, x.redo(0));
+        due(all - 150000, x.length(0));
+        promise = 36;
+        due(all - 150000, x.lengthThen(0, x.steps(0)));
+        due(60, x.lengthThen(0, x.steps(0) - 3));
+        due(all / 2, x.lengthThen(1, x.steps(1) - 2));
+        promise = 37;
+        due('c', x.signThen(1, x.steps(1), 100002));
+        refused(x, NONE, () -> x.signThen(1, x.steps(1), all));
+        promise = 45;
+        due(true, x.isTrue());
+
+        promise = 7;
+        due(-70001, x.move(1, 100003, 40000, 30002));
+        due("abde", "" + x.signAt(1, 30000) + x.signAt(1, 30001) + x.signAt(1, 30002) + x.signAt(1, 30003));
+        due("cc", "" + x.signAt(1, 70001) + x.signAt(1, 70002));
+        due("116,117,117,116", x.birth(1, 30001) + "," + x.birth(1, 30002) + "," + x.birth(1, 70001) + "," + x.birth(1, 70002));
+        meetAll(x);
+        // the moved ones that hand 0 took stay away, those that were put anew stay
+        due(all - 150000 + 40000, x.length(3));
+        due(true, x.isAlike(0, 3));
+        promise = 44;
+        dueSum(x);
+        promise = 40;
+        due(x.kept(2) - x.length(2), x.forget());
+        due(all - 110000, x.kept(4));
+        due(true, x.isTrue());
+        dueSum(x);
+        refused(x, NONE, () -> x.undo(0));
+        due(all - 110001, x.take(4, 60000, 1));
+        due(90000, x.cursor(0));
+    }
+
+    static int bit(Manypens x, int place) {
+        return x.isMarked(0, place, 'i') ? 1 : 0;
+    }
+
+    /** The sum of all, letter by letter. */
+    static void dueSum(Manypens x) {
+        long sum = 7;
+        for (int h = 0; h < 5; h++) {
+            for (int of = 0; of < 5; of++) {
+                sum = 31 * sum + x.heard(h, of);
+            }
+            for (int i = 0; i < x.length(h); i++) {
+                sum = 31 * sum + x.signAt(h, i);
+                sum = 31 * sum + (x.isMarked(h, i, 'b') ? 1 : 0) + (x.isMarked(h, i, 'i') ? 2 : 0);
+            }
+            sum = 31 * (31 * sum + x.cursor(h)) + x.onWay(h);
+        }
+        due(sum, x.checksum());
+    }
+
+    /** As many letters as no int can tell: what an int can't tell is told as the greatest one. */
+    static void beyondInts() {
+        int most = Integer.MAX_VALUE;
+        Manypens x = start("abc");
+        doubleText(x, 30);
+        promise = 16;
+        due(most, x.length(0));
+        promise = 17;
+        due((char) ('a' + most % 3), x.signAt(0, most));
+        refused(x, NONE, () -> x.signAt(0, -1));
+        promise = 18;
+        due(130, x.birth(0, 0));
+        due(31, x.birth(0, most));
+        promise = 44;
+        dueSumOfDoubled(x, 30);
+        promise = 23;
+        due(0, x.setCursor(0, most));
+        promise = 24;
+        due(most, x.cursor(0));
+        promise = 8;
+        due(32, x.mark(0, 1, most, 'b', true, false));
+        promise = 19;
+        due(false, x.isMarked(0, 0, 'b'));
+        due(true, x.isMarked(0, 1, 'b'));
+        due(true, x.isMarked(0, most, 'b'));
+        promise = 20;
+        due(3, x.runs(0));
+        promise = 5;
+        due(1073741825, x.take(0, 0, most));
+        due(0, x.cursor(0));
+        due(true, x.isMarked(0, 0, 'b'));
+        due(false, x.isMarked(0, 1, 'b'));
+        refused(x, NONE, () -> x.take(0, 0, 1073741826));
+        promise = 38;
+        due(most, x.differ(0, 1));
+        due(1073741825 + 3, x.differ(0, 2));
+        promise = 13;
+        due(1, x.undo(0));
+        due(most, x.length(0));
+        promise = 7;
+        due(999999995, x.move(0, 5, most, 1000000000));
+        refused(x, NONE, () -> x.move(0, 5, most, 1073741826));
+        refused(x, NONE, () -> x.move(0, 5, most, -1));
+        due(35, x.birth(0, 1000000000));
+        due("bc", "" + x.signAt(0, 999999999) + x.signAt(0, 1000000000));
+        promise = 43;
+        due((31.0 * 1073741825.0 + 35.0 * most) / 3221225472.0, x.meanTime(0));
+        promise = 42;
+        due(5f / 3221225472f, x.othersShare(0));
+        promise = 45;
+        due(true, x.isTrue());
+        meetAll(x);
+        due(true, x.isTrue());
+        promise = 40;
+        due(most, x.forget());
+        due(most, x.length(4));
+        due(true, x.isTrue());
+        due(1073741825, x.take(4, 0, most));
+        promise = 41;
+        due(most, x.kept(4));
+    }
+
+    /** For hands 0 and 1 of beyondInts(), who see "abc" over and over; the other ones see it once. */
+    static void dueSumOfDoubled(Manypens x, int often) {
+        long times = 1;
+        long more = 0;
+        for (char c : "abc".toCharArray()) {
+            more = 31 * (31 * more + c);
+            times *= 31 * 31;
+        }
+        long oneTimes = times;
+        long oneMore = more;
+        for (int i = 0; i < often; i++) {
+            more = more * times + more;
+            times *= times;
+        }
+        long sum = 7;
+        for (int h = 0; h < 5; h++) {
+            for (int of = 0; of < 5; of++) {
+                sum = 31 * sum + x.heard(h, of);
+            }
+            sum = h < 2 ? sum * times + more : sum * oneTimes + oneMore;
+            sum = 31 * (31 * sum + x.cursor(h)) + x.onWay(h);
+        }
+        due(sum, x.checksum());
     }
 }
