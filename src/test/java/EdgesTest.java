@@ -105,6 +105,9 @@ public final class EdgesTest {
             replace 0 0 1 ! UnsupportedOperation; type y; put 0 0 ! IllegalState; write 0 ! IllegalState; put 0 62 ! NoSuchElement
             replace 0 0 1 ! IllegalState; replace 0 0 62 ! NoSuchElement; replace 0 0 2 = 60
             """);
+        Document.says(6, "nothing is typed", SIXTY, """
+            type xyz; put 4 0; meet 0 4; length 0 = 63; replace 0 0 1 ! UnsupportedOperation; replace 0 0 64 ! NoSuchElement
+            """);
         Document.says(4, "the hand has made 40 edits", ABC, """
             times 38 comment 0 0 1 1; type x; put 0 0 = 4; heard 0 0 = 40; type y; put 0 0 ! IllegalState
             put 0 5 ! NoSuchElement; put 1 0 = 4
@@ -118,23 +121,41 @@ public final class EdgesTest {
     /** What take, replace, mark and comment say of the letters that they are told; the rest is what follows them in a call. */
     static void letters(int promise, String name, String rest, String typing) {
         String begin = "type abcde; put 0 0; meetAll; take 0 4 1;" + typing;
-        String call = name + " 0 ";
-        String none = rest + " ! NoSuchElement;";
-        Document.says(promise, "`place`: the place of the first one", begin, call + "-1 1" + none, call + "4 1" + none, call + "MIN 1" + none, call + "MAX 1" + none,
-            call + "3 1" + rest);
-        Document.says(promise, "how many letters, 1 or more", begin, call + "0 0" + none, call + "0 -1" + none, call + "0 MIN" + none, call + "0 1" + rest);
-        Document.says(promise, "many is below 1", begin, call + "4 0" + none, call + "3 0" + none, call + "3 MIN" + none, call + "-1 0" + none, call + "9 -9" + none);
-        Document.says(promise, "there are no such letters in its text", begin, call + "0 5" + none, call + "3 2" + none, call + "1 4" + none, call + "4 1" + none,
-            call + "-1 2" + none, call + "1 MAX" + none, call + "MAX MAX" + none, call + "MAX 1" + none, call + "MIN MAX" + none, call + "0 MAX" + none,
-            call + "0 4" + rest);
-        Document.says(promise, "there are no such letters in its text", typing, call + "0 1" + none, call + "0 0" + none, "meetAll; forget = 0;", call + "0 1" + none);
-        // what another hand sees does not count
-        Document.says(promise, "there are no such letters in its text", begin, name + " 3 0 5" + rest, call + "0 5" + none, "take 4 0 5 = 0", name + " 4 0 1" + none);
-        Document.says(promise, "the hand has made 40 edits", begin, "times 38 comment 0 3 1 0; heard 0 0 = 40;", call + "0 1" + rest + " ! IllegalState",
-            call + "0 5" + none, call + "-1 1" + none, call + "0 0" + none, name + " 4 0 1" + rest);
-        Document.says(promise, "the hand has made 40 edits", begin, "times 37 comment 0 3 1 0;", call + "0 1" + rest, """
-            heard 0 0 = 40; groups 0 false = 40
+        ofLetters(promise, "`place`: the place of the first one", name, rest, begin, """
+            NAME 0 -1 1 REST ! NoSuchElement; NAME 0 4 1 REST ! NoSuchElement; NAME 0 MIN 1 REST ! NoSuchElement
+            NAME 0 MAX 1 REST ! NoSuchElement; NAME 0 3 1 REST
             """);
+        ofLetters(promise, "how many letters, 1 or more", name, rest, begin, """
+            NAME 0 0 0 REST ! NoSuchElement; NAME 0 0 -1 REST ! NoSuchElement; NAME 0 0 MIN REST ! NoSuchElement; NAME 0 0 1 REST
+            """);
+        ofLetters(promise, "many is below 1", name, rest, begin, """
+            NAME 0 4 0 REST ! NoSuchElement; NAME 0 3 0 REST ! NoSuchElement; NAME 0 3 MIN REST ! NoSuchElement
+            NAME 0 -1 0 REST ! NoSuchElement; NAME 0 9 -9 REST ! NoSuchElement
+            """);
+        ofLetters(promise, "there are no such letters in its text", name, rest, begin, """
+            NAME 0 0 5 REST ! NoSuchElement; NAME 0 3 2 REST ! NoSuchElement; NAME 0 1 4 REST ! NoSuchElement
+            NAME 0 4 1 REST ! NoSuchElement; NAME 0 -1 2 REST ! NoSuchElement; NAME 0 1 MAX REST ! NoSuchElement
+            NAME 0 MAX MAX REST ! NoSuchElement; NAME 0 MAX 1 REST ! NoSuchElement; NAME 0 MIN MAX REST ! NoSuchElement
+            NAME 0 0 MAX REST ! NoSuchElement; NAME 0 0 4 REST
+            """);
+        ofLetters(promise, "there are no such letters in its text", name, rest, typing, """
+            NAME 0 0 1 REST ! NoSuchElement; NAME 0 0 0 REST ! NoSuchElement; meetAll; forget = 0; NAME 0 0 1 REST ! NoSuchElement
+            """);
+        // what another hand sees does not count
+        ofLetters(promise, "there are no such letters in its text", name, rest, begin, """
+            NAME 3 0 5 REST; NAME 0 0 5 REST ! NoSuchElement; take 4 0 5 = 0; NAME 4 0 1 REST ! NoSuchElement
+            """);
+        ofLetters(promise, "the hand has made 40 edits", name, rest, begin, """
+            times 38 comment 0 3 1 0; heard 0 0 = 40; NAME 0 0 1 REST ! IllegalState; NAME 0 0 5 REST ! NoSuchElement
+            NAME 0 -1 1 REST ! NoSuchElement; NAME 0 0 0 REST ! NoSuchElement; NAME 4 0 1 REST
+            """);
+        ofLetters(promise, "the hand has made 40 edits", name, rest, begin, """
+            times 37 comment 0 3 1 0; NAME 0 0 1 REST; heard 0 0 = 40; groups 0 false = 40
+            """);
+    }
+
+    static void ofLetters(int promise, String quote, String name, String rest, String begin, String calls) {
+        Document.says(promise, quote, begin, calls.replace("NAME", name).replace(" REST", rest));
     }
 
     static void taking() {
@@ -196,8 +217,10 @@ public final class EdgesTest {
             marks 0 i = 000; hung 0 = none; cursor 0 = 1; undo 0; marks 0 b = 010; hung 0 = 4:1-1:5; cursor 0 = 2; redo 0
             mark 0 0 3 b true false; move 0 1 1 1 = 0; marks 0 b = 111; move 0 1 1 0 = -1; text 0 = cab; marks 0 b = 011
             """);
-        Document.says(7, "`place`: the place of the first one", ABC, "move 0 -1 1 0 ! NoSuchElement; move 0 3 1 0 ! NoSuchElement; move 0 MAX 1 0 ! NoSuchElement; move 0 MIN 1 0 ! NoSuchElement",
-            "move 0 2 1 0 = -2; text 0 = cab; move 0 0 1 2 = 2; text 0 = abc");
+        Document.says(7, "`place`: the place of the first one", ABC, """
+            move 0 -1 1 0 ! NoSuchElement; move 0 3 1 0 ! NoSuchElement; move 0 MAX 1 0 ! NoSuchElement
+            move 0 MIN 1 0 ! NoSuchElement; move 0 2 1 0 = -2; text 0 = cab; move 0 0 1 2 = 2; text 0 = abc
+            """);
         Document.says(7, "how many letters, 1 or more", ABC, """
             move 0 0 0 0 ! NoSuchElement; move 0 0 -1 0 ! NoSuchElement; move 0 0 MIN 0 ! NoSuchElement; move 0 0 1 1 = 1
             move 0 0 3 0 = 0
@@ -265,8 +288,10 @@ public final class EdgesTest {
             mark 0 0 5 b true false; mark 0 1 1 b false true; type z; put 0 2; text 0 = axzbcy; marks 0 b = 100111; type w
             put 0 0; marks 0 b = 0100111
             """);
-        Document.says(8, "Returns the number of the edit", ABC, "mark 0 0 1 b true false = 2; mark 4 0 1 b true false = 1; mark 4 0 1 i false true = 2; undo 4; mark 4 0 1 b true true = 4",
-            "times 35 comment 4 0 1 1; mark 4 2 1 i true true = 40; mark 0 0 3 b true true = 3");
+        Document.says(8, "Returns the number of the edit", ABC, """
+            mark 0 0 1 b true false = 2; mark 4 0 1 b true false = 1; mark 4 0 1 i false true = 2; undo 4
+            mark 4 0 1 b true true = 4; times 35 comment 4 0 1 1; mark 4 2 1 i true true = 40; mark 0 0 3 b true true = 3
+            """);
         Document.says(8, "there is no such kind", ABC, """
             mark 0 0 1 a true false ! IllegalArgument; mark 0 0 1 c true false ! IllegalArgument
             mark 0 0 1 h true false ! IllegalArgument
@@ -496,8 +521,10 @@ public final class EdgesTest {
             mark 0 1 1 b true false; isMarked 0 1 b = true; isMarked 0 0 b = false; isMarked 0 2 b = false
             isMarked 1 1 b = false
             """);
-        Document.says(19, "`place`: its place", ABC, "isMarked 0 0 b = false; isMarked 0 2 i = false; isMarked 0 3 b ! NoSuchElement; isMarked 0 -1 i ! NoSuchElement",
-            "isMarked 0 MAX b ! NoSuchElement; isMarked 0 MIN b ! NoSuchElement");
+        Document.says(19, "`place`: its place", ABC, """
+            isMarked 0 0 b = false; isMarked 0 2 i = false; isMarked 0 3 b ! NoSuchElement; isMarked 0 -1 i ! NoSuchElement
+            isMarked 0 MAX b ! NoSuchElement; isMarked 0 MIN b ! NoSuchElement
+            """);
         Document.says(19, "`kind`: 'b' or 'i'", ABC, """
             mark 0 0 3 i true true; isMarked 0 0 i = true; isMarked 0 0 b = false; mark 0 0 3 b true true
             isMarked 0 0 b = true; isMarked 0 0 i = true
@@ -546,8 +573,11 @@ public final class EdgesTest {
             comment 0 1 1 1; take 1 1 1; comments 1 = 0; meet 0 1; comments 0 = 0; comments 1 = 0; undo 1; comments 1 = 1
             meet 0 1; comments 0 = 1
             """);
-        Document.says(21, "Returns how many.", "type a; put 0 0; meetAll; times 39 comment 0 0 1 1; times 40 comment 3 0 1 2; times 40 comment 4 0 1 3; meet 3 4; comments 4 = 80; meet 0 4; comments 0 = 119",
-            "commentAt 0 118 n = 440; commentAt 0 0 n = 2; commentAt 0 39 n = 301; commentAt 0 119 n ! NoSuchElement");
+        Document.says(21, "Returns how many.", """
+            type a; put 0 0; meetAll; times 39 comment 0 0 1 1; times 40 comment 3 0 1 2; times 40 comment 4 0 1 3; meet 3 4
+            comments 4 = 80; meet 0 4; comments 0 = 119; commentAt 0 118 n = 440; commentAt 0 0 n = 2; commentAt 0 39 n = 301
+            commentAt 0 119 n ! NoSuchElement
+            """);
         Document.says(22, "Returns something of a comment", ABC, """
             comment 3 1 2 -8; commentAt 3 0 n = 301; commentAt 3 0 f = 1; commentAt 3 0 l = 2; commentAt 3 0 c = -8
             """);
@@ -779,13 +809,13 @@ public final class EdgesTest {
             leans 1 1 0 ! NoSuchElement; leans 0 9 5 ! IndexOutOfBounds
             times 39 comment 0 0 1 1; leans 0 40 0 = 39; leans 0 41 0 ! NoSuchElement
             """);
-        for (int promise : new int[] {32, 33, 34, 38, 39}) {
-            String name = "- - lacks heard leans - - - differ isAlike".split(" ")[promise - 30];
-            String between = promise == 34 ? " 1 " : " ";
-            String none = " ! IndexOutOfBounds;";
-            Document.says(promise, "no such hand, for either", ABC, name + " 0" + between + "5" + none, name + " 0" + between + "-1" + none, name + " 5" + between + "0" + none,
-                name + " -1" + between + "0" + none, name + " 5" + between + "5" + none, name + " 0" + between + "MAX" + none, name + " MIN" + between + "0" + none,
-                name + " 0" + between + "4", name + " 0" + between + "0");
+        for (String named : new String[] {"32 lacks", "33 heard", "34 leans", "38 differ", "39 isAlike"}) {
+            String[] words = named.split(" ");
+            Document.says(Integer.parseInt(words[0]), "no such hand, for either", ABC, """
+                NAME 0 OF 5 ! IndexOutOfBounds; NAME 0 OF -1 ! IndexOutOfBounds; NAME 5 OF 0 ! IndexOutOfBounds
+                NAME -1 OF 0 ! IndexOutOfBounds; NAME 5 OF 5 ! IndexOutOfBounds; NAME 0 OF MAX ! IndexOutOfBounds
+                NAME MIN OF 0 ! IndexOutOfBounds; NAME 0 OF 4; NAME 0 OF 0
+                """.replace("NAME", words[1]).replace(" OF", words[1].equals("leans") ? " 1" : ""));
         }
     }
 

@@ -738,58 +738,6 @@ public final class FuzzTest {
         }
     }
 
-    // ---- Manypens, called by names
-
-    static Object real(Manypens x, String name, int[] a) {
-        switch (name) {
-            case "type": return x.type((char) a[0]);
-            case "erase": return x.erase();
-            case "put": return x.put(a[0], a[1]);
-            case "take": return x.take(a[0], a[1], a[2]);
-            case "replace": return x.replace(a[0], a[1], a[2]);
-            case "move": return x.move(a[0], a[1], a[2], a[3]);
-            case "mark": return x.mark(a[0], a[1], a[2], (char) a[3], a[4] == 1, a[5] == 1);
-            case "comment": return x.comment(a[0], a[1], a[2], a[3]);
-            case "write": return x.write(a[0]);
-            case "open": return x.open(a[0]);
-            case "close": return x.close(a[0]);
-            case "undo": return x.undo(a[0]);
-            case "redo": return x.redo(a[0]);
-            case "groups": return x.groups(a[0], a[1] == 1);
-            case "length": return x.length(a[0]);
-            case "signAt": return x.signAt(a[0], a[1]);
-            case "birth": return x.birth(a[0], a[1]);
-            case "isMarked": return x.isMarked(a[0], a[1], (char) a[2]);
-            case "runs": return x.runs(a[0]);
-            case "comments": return x.comments(a[0]);
-            case "commentAt": return x.commentAt(a[0], a[1], (char) a[2]);
-            case "setCursor": return x.setCursor(a[0], a[1]);
-            case "cursor": return x.cursor(a[0]);
-            case "onWay": return x.onWay(a[0]);
-            case "wayAt": return x.wayAt(a[0], a[1]);
-            case "deliver": return x.deliver(a[0], a[1]);
-            case "repeat": return x.repeat(a[0], a[1]);
-            case "lose": return x.lose(a[0], a[1]);
-            case "meet": return x.meet(a[0], a[1]);
-            case "waiting": return x.waiting(a[0]);
-            case "lacks": return x.lacks(a[0], a[1]);
-            case "heard": return x.heard(a[0], a[1]);
-            case "leans": return x.leans(a[0], a[1], a[2]);
-            case "steps": return x.steps(a[0]);
-            case "lengthThen": return x.lengthThen(a[0], a[1]);
-            case "signThen": return x.signThen(a[0], a[1], a[2]);
-            case "differ": return x.differ(a[0], a[1]);
-            case "isAlike": return x.isAlike(a[0], a[1]);
-            case "forget": return x.forget();
-            case "kept": return x.kept(a[0]);
-            case "othersShare": return x.othersShare(a[0]);
-            case "meanTime": return x.meanTime(a[0]);
-            case "checksum": return x.checksum();
-            case "isTrue": return x.isTrue();
-            default: throw new Error(name);
-        }
-    }
-
     // ---- the runs
 
     static final String[] ALL = {"type", "erase", "put", "take", "replace", "move", "mark", "comment", "write",
@@ -845,17 +793,17 @@ public final class FuzzTest {
         }
     }
 
-    static String answer(Object model, Manypens x, String name, int[] a) {
+    static String due(Pens model, String name, int[] a) {
         try {
-            return String.valueOf(model == null ? real(x, name, a) : ((Pens) model).call(name, a));
+            return String.valueOf(model.call(name, a));
         } catch (RuntimeException e) {
             return e.getClass().getSimpleName();
         }
     }
 
     static boolean check(List<String> log, Pens m, Manypens x, String name, int... a) {
-        String want = answer(m, null, name, a);
-        String got = answer(null, x, name, a);
+        String want = due(m, name, a);
+        String got = Calls.answer(x, name, a);
         log.add(name + java.util.Arrays.toString(a) + " = " + got);
         (want.endsWith("Exception") ? refused : answered).merge(name, 1, Integer::sum);
         if (!want.equals(got)) {
