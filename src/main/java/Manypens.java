@@ -20,6 +20,8 @@ public final class Manypens {
     private static final int MOST_TYPED = 12;
     private static final int LONGEST = 60;
     private static final int MOST_REPEATED = 200;
+    /** The greatest int. */
+    private static final long MOST_TOLD = 2147483647L;
     /** Bits of a set of edits, in rows of longs. */
     private static final int BITS = 64;
     private static final int WORDS = (ALL + BITS - 1) / BITS;
@@ -580,7 +582,7 @@ public final class Manypens {
 
     /** There can be more letters than an int can tell; then it is the greatest one. */
     private static int told(long many) {
-        return (int) Math.min(many, Integer.MAX_VALUE);
+        return (int) Math.min(many, MOST_TOLD);
     }
 
     private static int bitOf(char kind) {

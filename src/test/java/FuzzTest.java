@@ -837,6 +837,22 @@ public final class FuzzTest {
         return check(log, m, x, "meet", other, one) && check(log, m, x, "isAlike", other, one);
     }
 
+    /** A hand makes a group of some edits, and undoes and does again what it can. */
+    static boolean turn(Random r, List<String> log, Pens m, Manypens x, int hands) {
+        int hand = r.nextInt(hands);
+        boolean good = check(log, m, x, r.nextBoolean() ? "open" : "close", hand);
+        for (int i = r.nextInt(4); i > 0 && good; i--) {
+            String name = new String[] {"take", "mark", "comment", "move"}[r.nextInt(4)];
+            int[] a = draw(r, name, m, hands);
+            a[0] = hand;
+            good = check(log, m, x, name, a);
+        }
+        for (int i = r.nextInt(6); i > 0 && good; i--) {
+            good = check(log, m, x, r.nextInt(5) < 3 ? "undo" : "redo", hand) && check(log, m, x, "groups", hand, r.nextInt(2));
+        }
+        return good;
+    }
+
     static boolean run(long seed) {
         Random r = new Random(seed);
         Pens m = new Pens();
@@ -845,6 +861,7 @@ public final class FuzzTest {
         int hands = 2 + r.nextInt(4);
         int often = 1 + r.nextInt(4);
         boolean crowds = seed % 8 == 0;
+        boolean turns = seed % 4 == 2;
         int forgetful = r.nextInt(3) == 0 ? 0 : 15 + r.nextInt(60);
         for (int i = 0; i < 480; i++) {
             if (forgetful > 0 && r.nextInt(forgetful) == 0) {
@@ -856,6 +873,9 @@ public final class FuzzTest {
                 if (!check(log, m, x, "forget")) return false;
             }
             if (crowds && r.nextInt(6) == 0 && !crowd(r, log, m, x, hands)) {
+                return false;
+            }
+            if (turns && r.nextInt(20) == 0 && !turn(r, log, m, x, hands)) {
                 return false;
             }
             String[] from = r.nextInt(often + 1) > 0 ? MAKING : ALL;

@@ -64,7 +64,8 @@ public final class LanguageTest {
 
     static void words(String source) {
         String[] banned = {"->", "::", "catch", "finally", "try ", "synchronized", "assert", "instanceof", "Exact(", "getClass",
-            "hashCode", "toString", "System.out", "nanoTime", "Random", "Thread", "Object", "super", "protected", " + \"", "static {"};
+            "hashCode", "toString", "System.out", "nanoTime", "Random", "Thread", "Object", "super", "protected", " + \"", "static {",
+            "_VALUE"};
         for (String word : banned) {
             need(!source.contains(word), "has " + word);
         }
