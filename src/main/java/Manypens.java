@@ -518,8 +518,12 @@ public final class Manypens {
 
     // ---- what a call needs
 
+    private static boolean isHand(int hand) {
+        return hand >= 0 && hand < HANDS;
+    }
+
     private void needHand(int hand) {
-        if (hand < 0 || hand >= HANDS) {
+        if (!isHand(hand)) {
             throw new IndexOutOfBoundsException("no such hand");
         }
     }
@@ -634,8 +638,10 @@ public final class Manypens {
     }
 
     private void makeChange(Edit edit) {
-        hands[edit.hand].joinGroup(edit);
-        send(edit);
+        if (isHand(edit.hand)) {
+            hands[edit.hand].joinGroup(edit);
+            send(edit);
+        }
     }
 
     private int turn(int hand, Ints from, Ints to, int turning) {
@@ -733,7 +739,10 @@ public final class Manypens {
     private void goBack(int hand, int step) {
         System.arraycopy(book.base, 0, heardThen, 0, HANDS);
         for (int i = 0; i < step; i++) {
-            heardThen[book.editAt(hands[hand].past.at(i)).hand]++;
+            int maker = book.editAt(hands[hand].past.at(i)).hand;
+            if (isHand(maker)) {
+                heardThen[maker]++;
+            }
         }
         past.see(heardThen);
     }
@@ -994,7 +1003,7 @@ public final class Manypens {
         }
 
         void add(Edit edit) {
-            if (edit.id < 0 || edit.id >= ALL) {
+            if (edit.id < 0 || edit.id >= ALL || !isHand(edit.hand)) {
                 return;
             }
             edits[edit.id] = edit;
@@ -1024,7 +1033,7 @@ public final class Manypens {
         }
 
         boolean isBase(Edit edit) {
-            return edit.number <= base[edit.hand];
+            return isHand(edit.hand) && edit.number <= base[edit.hand];
         }
     }
 
@@ -1471,7 +1480,7 @@ public final class Manypens {
             int piece = row.next.at(NO_PIECE);
             for (int i = 0; i < row.links && piece != NO_PIECE; i++) {
                 Edit maker = book.makerOf(piece);
-                if (maker.hand < counts.length && maker.number <= counts[maker.hand]) {
+                if (isHand(maker.hand) && maker.hand < counts.length && maker.number <= counts[maker.hand]) {
                     kept += book.pieces.sizes.at(piece);
                     if (isInForce(maker) && !book.pieces.isTaken(piece, inForce)) {
                         text.add(piece);
@@ -1625,7 +1634,7 @@ public final class Manypens {
         }
 
         boolean hasHeard(Edit edit) {
-            return edit.number <= heard[edit.hand];
+            return isHand(edit.hand) && edit.number <= heard[edit.hand];
         }
 
         boolean canHear(Edit edit) {
@@ -1638,7 +1647,9 @@ public final class Manypens {
         }
 
         void hear(Edit edit) {
-            heard[edit.hand] = edit.number;
+            if (isHand(edit.hand)) {
+                heard[edit.hand] = edit.number;
+            }
             latest = Math.max(latest, edit.time);
             past.add(edit.id);
             setWaiting(edit, 0);
